@@ -29,6 +29,8 @@ public final class LightDoses {
     private static final long PARTS_OF_LUX_HOUR = 3600000;
     private static final long PARTS_OF_SHARE = 3600;
     private static final long PARTS_OF_LUX_SECOND = 1000;
+    /** Far above what all lamps, daylight and flashes can give: stands for a bound where there is none. */
+    private static final long UNREACHED_PARTS = 1000000000000000000L;
     /** The largest power of two in a year's hours: searches take this step first, then halves of it. */
     private static final int YEAR_STEP = 8192;
 
@@ -275,7 +277,8 @@ public final class LightDoses {
 
     /** All that an object got in some hours. */
     private long partsOf(int object, int from, int to) {
-        return partsWhileShown(exhibitOf(object), from, to) + PARTS_OF_LUX_SECOND * flashes.luxSeconds(object, from, to);
+        return partsWhileShown(exhibitOf(object), from, to)
+            + PARTS_OF_LUX_SECOND * flashes.luxSeconds(object, from, to);
     }
 
     private long partsWhileShown(Exhibit exhibit, int from, int to) {
@@ -305,10 +308,10 @@ public final class LightDoses {
         return parts;
     }
 
-    /** What an object is allowed in a year; a bound that nothing reaches stands for none. */
+    /** What an object is allowed in a year. */
     private long partsAllowed(int object) {
         int allowance = allowances[exhibitOf(object).kind];
-        return allowance == NONE ? Long.MAX_VALUE : PARTS_OF_LUX_HOUR * allowance;
+        return allowance == NONE ? UNREACHED_PARTS : PARTS_OF_LUX_HOUR * allowance;
     }
 
     private long partsLeft(int object, int year) {
