@@ -40,7 +40,8 @@ public final class FaceTest {
         for (Field field : LightDoses.class.getDeclaredFields()) {
             if (!Modifier.isPrivate(field.getModifiers())) {
                 boolean constant = field.getModifiers() == (Modifier.PUBLIC | Modifier.STATIC | Modifier.FINAL);
-                seen.add(constant ? field.getType() + " " + field.getName() + " = " + field.get(null) : field.toString());
+                String told = field.getType() + " " + field.getName();
+                seen.add(constant ? told + " = " + field.get(null) : field.toString());
             }
         }
         for (Constructor<?> constructor : LightDoses.class.getDeclaredConstructors()) {

@@ -1,6 +1,9 @@
 import java.util.Random;
 
-/** Long runs of drawn calls, wrong ones among them, must have the plain model's answers; the draws are the same each time. */
+/**
+ * Long runs of drawn calls, wrong ones among them, must have the plain model's answers; the draws are the same
+ * each time.
+ */
 public final class ModelTest {
     private static final int RUNS = 120;
     private static final int CALLS = 512;
@@ -128,10 +131,12 @@ public final class ModelTest {
                 int t = below(24);
                 due("daylight(" + t + ", " + v + ")", () -> x.daylight(t, v), () -> model.daylight(t, v));
             }
-            case 6 -> due("shown(" + o + ", " + h + ", " + to + ")", () -> x.shown(o, h, to), () -> model.shown(o, h, to));
+            case 6 -> due("shown(" + o + ", " + h + ", " + to + ")",
+                () -> x.shown(o, h, to), () -> model.shown(o, h, to));
             case 7 -> {
                 boolean on = random.nextBoolean();
-                due("presence(" + l + ", " + h + ", " + on + ")", () -> x.presence(l, h, on), () -> model.presence(l, h, on));
+                due("presence(" + l + ", " + h + ", " + on + ")",
+                    () -> x.presence(l, h, on), () -> model.presence(l, h, on));
             }
             case 8 -> due("meter(" + l + ", " + h + ", " + v + ")", () -> x.meter(l, h, v), () -> model.meter(l, h, v));
             default -> {
@@ -150,7 +155,8 @@ public final class ModelTest {
                 boolean all = random.nextBoolean();
                 int from = all ? 0 : h;
                 int end = all ? PlainModel.HOURS : to;
-                due("sum(" + o + ", " + from + ", " + end + ")", () -> x.sum(o, from, end), () -> model.sum(o, from, end));
+                due("sum(" + o + ", " + from + ", " + end + ")",
+                    () -> x.sum(o, from, end), () -> model.sum(o, from, end));
                 due("rest()", () -> x.rest(), () -> model.rest());
             }
             case 11 -> {
