@@ -24,7 +24,7 @@ final class Due {
         }
     }
 
-    // The machine's exceptions have classes or texts of their own, the library's start in another class.
+    // The machine's exceptions show by their class's name; the library's can bear ours, but start in another class.
     private static boolean thrownByTheClass(RuntimeException e) {
         StackTraceElement[] trace = e.getStackTrace();
         return trace.length > 0 && trace[0].getClassName().startsWith("LightDoses");
