@@ -402,6 +402,8 @@ public final class AnswersBoundsTest {
     private static void eachPageAtOneTime() {
         book("18, 'each page at one time'", 5).is("rotate 5", 0).is("rotate 6", -1).is("rotate 10", -1)
             .with("page 1").is("rotate 6", 1).is("rotate 7", -1).with("page 1").is("rotate 7", 2).is("rotate 8", -1);
+        book("18, 'each page at one time': the longest one too", 20, 1, 8, 8)
+            .is("rotate 36", 2).is("turned 0", 0).is("turned 1", 2).is("turned 2", 3);
     }
 
     private static void cannotBe() {

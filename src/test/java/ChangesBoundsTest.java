@@ -36,6 +36,7 @@ public final class ChangesBoundsTest {
         hoursThatMeasure();
         meterOfNoLampOrHour();
         twentyMeasures();
+        twentyOfEach();
         meterLux();
         meterLuxBehindTheOthers();
         howManyFlashes();
@@ -298,6 +299,19 @@ public final class ChangesBoundsTest {
         }
         run.is("sum 0 0 26280", 1000 + 50 * 26270).is("meter 1 1 5", 1).is("presence 0 1 on", 1)
             .refuses("meter 0 1 5", Due.STATE);
+    }
+
+    private static void twentyOfEach() {
+        Run run = Run.lit("8 and 9, 'there are 20': of each of both, in forty hours");
+        for (int hour = 0; hour < 20; hour++) {
+            run.is("presence 0 " + (20 * hour + 1) + (hour % 2 == 0 ? " off" : " on"), hour + 1)
+                .is("meter 0 " + (20 * hour + 11) + " " + (hour + 1), hour + 1);
+        }
+        run.refuses("presence 0 0 off", Due.STATE).refuses("meter 0 0 7", Due.STATE)
+            .hour(0, 0, 100).hour(0, 1, 0).hour(0, 20, 0).hour(0, 21, 1).hour(0, 30, 1).hour(0, 31, 2).hour(0, 40, 2)
+            .hour(0, 41, 0).hour(0, 380, 0).hour(0, 381, 19).hour(0, 390, 19).hour(0, 391, 20).hour(0, 26279, 20)
+            .is("sum 0 0 381", 100 + 10 * (18 * 19 / 2))
+            .is("sum 0 381 26280", 10 * 19 + 20 * (26280 - 391));
     }
 
     private static void meterLux() {

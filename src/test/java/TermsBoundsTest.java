@@ -144,7 +144,8 @@ public final class TermsBoundsTest {
             .is("meter 0 0 3", 2).hour(0, 0, 3).hour(0, 9, 3).hour(0, 10, 7)
             .is("meter 0 26279 5000", 3).hour(0, 26278, 7).hour(0, 26279, 5000)
             .is("meter 0 9 0", 4).hour(0, 8, 3).hour(0, 9, 0).hour(0, 10, 7)
-            .is("sum 0 0 26280", 3 * 9 + 7 * 26269 + 5000);
+            .is("sum 0 0 26280", 3 * 9 + 7 * 26269 + 5000)
+            .is("meter 0 1 40", 5).hour(0, 0, 3).hour(0, 1, 40).hour(0, 8, 40).hour(0, 9, 0);
     }
 
     private static void onTillToldOff() {
@@ -155,7 +156,8 @@ public final class TermsBoundsTest {
             .is("presence 0 0 off", 3).hour(0, 0, 0).hour(0, 9, 0).hour(0, 20, 100)
             .is("presence 0 26279 off", 4).hour(0, 26278, 100).hour(0, 26279, 0)
             .is("presence 0 21 off", 5).hour(0, 20, 100).hour(0, 21, 0)
-            .is("sum 0 0 26280", 100);
+            .is("sum 0 0 26280", 100)
+            .is("presence 0 1 on", 6).hour(0, 0, 0).hour(0, 1, 100).hour(0, 9, 100).hour(0, 10, 0);
     }
 
     private static void shareAtFirst() {
