@@ -369,7 +369,9 @@ public final class AnswersBoundsTest {
             .with("shines 0 0 989").refuses("breach 0 0", Due.INDEX)
             .with("flash 0 2 4000").is("breach 0 0", 50)
             .with("allowed 0 0").is("breach 0 0", 2)
-            .with("object 0", "flash 1 1 1").is("breach 0 1", 1).is("breach 1 1", 0);
+            .with("object 0", "flash 1 1 1").is("breach 0 1", 1).is("breach 1 1", 0)
+            .with("flash 1 8760 1", "object 0").is("breach 2 1", 1)
+            .with("flash 1 17520 1", "lamp 5000").is("breach 3 0", 17520);
     }
 
     private static void breachOfNoNumber() {

@@ -307,10 +307,14 @@ public final class ChangesBoundsTest {
             run.is("presence 0 " + (20 * hour + 1) + (hour % 2 == 0 ? " off" : " on"), hour + 1)
                 .is("meter 0 " + (20 * hour + 11) + " " + (hour + 1), hour + 1);
         }
-        run.refuses("presence 0 0 off", Due.STATE).refuses("meter 0 0 7", Due.STATE)
-            .hour(0, 0, 100).hour(0, 1, 0).hour(0, 20, 0).hour(0, 21, 1).hour(0, 30, 1).hour(0, 31, 2).hour(0, 40, 2)
-            .hour(0, 41, 0).hour(0, 380, 0).hour(0, 381, 19).hour(0, 390, 19).hour(0, 391, 20).hour(0, 26279, 20)
-            .is("sum 0 0 381", 100 + 10 * (18 * 19 / 2))
+        run.refuses("presence 0 0 off", Due.STATE).refuses("meter 0 0 7", Due.STATE).hour(0, 0, 100);
+        for (int hour = 0; hour < 20; hour++) {
+            int start = 20 * hour + 1;
+            boolean on = hour % 2 != 0;
+            run.hour(0, start, on ? hour : 0).hour(0, start + 9, on ? hour : 0)
+                .hour(0, start + 10, on ? hour + 1 : 0).hour(0, start + 19, on ? hour + 1 : 0);
+        }
+        run.hour(0, 26279, 20).is("sum 0 0 381", 100 + 10 * (18 * 19 / 2))
             .is("sum 0 381 26280", 10 * 19 + 20 * (26280 - 391));
     }
 
